@@ -163,6 +163,8 @@ public final class SplitClassesPromises {
     due("COLUMN 0", x.setBy(2, 0, -5), 2);
     due("COLUMN 7", x.setBy(2, 7, 99), 18);
     due("COLUMN 3", x.setBy(2, 3, 0), 0);
+    x.columns(0, 8);
+    due("COLUMN 3 of the first ITEM", x.setBy(2, 3, 0), 1);
     due("by LETTER 0 to CLASS 0", x.setBy(3, 0, 0), 24);
     due("by LETTER 1 to CLASS 0", x.setBy(3, 1, 0), 29);
     due("by LETTER 1 to CLASS 1", x.setBy(3, 1, 1), 2);
@@ -174,7 +176,7 @@ public final class SplitClassesPromises {
     due("twelve at least", x.setBy(5, 1, 12), 0);
     refusalsOfSets(x, false);
     due("WORK", x.told(2), 2);
-    due("to be undone", x.told(15), 12);
+    due("to be undone", x.told(15), 13);
   }
 
   /** setBy and by refuse the same. */
@@ -486,6 +488,9 @@ public final class SplitClassesPromises {
     for (int i = 0; i < 11; i++) row.edge(i, i + 1, 1);
     due("evenly many in a row", row.refine(4), 6);
     due("ARRANGED", classes(row), "2049 1026 516 264 144 96");
+    SplitClasses path = withEdges(3, 0, 1, 1, 2);
+    path.split(1);
+    due("told apart by one ITEM alone", path.refine(4), 3);
     SplitClasses only = of(4);
     only.split(12);
     only.refine(4);
