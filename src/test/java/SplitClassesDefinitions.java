@@ -3,8 +3,9 @@ import java.util.List;
 
 /**
  * The document's own definitions, taken word for word, over all small rows of classes, graphs and machines, and over
- * some tables (all would be too many): "as few CLASSES as can be" by looking at all ways to put ITEMS in classes, "a row of LETTERS" by all words, "every ring of four and more has a chord" by
- * all rings, SPLIT and SEARCH step by step as they are told.
+ * some tables (all would be too many): "as few CLASSES as can be" by looking at all ways to put ITEMS in classes,
+ * "a row of LETTERS" by all words, "every ring of four and more has a chord" by all rings, SPLIT and SEARCH step by
+ * step as they are told.
  */
 public final class SplitClassesDefinitions {
   private static final int NONE = -1, UNKNOWN = -1000000001;
